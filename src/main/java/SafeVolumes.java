@@ -985,22 +985,12 @@ public final class SafeVolumes {
             return NOT_ANY;
         }
 
-        /** The next VOLUME behind a PIECE; NONE: there is none. */
-        private int volumeBehind(int piece) {
-            for (int i = piece + 1; i < pieces.size(); i++) {
-                if (isVolume(i)) {
-                    return i;
-                }
-            }
-            return NONE;
-        }
-
         int growth() {
             int sum = 0;
-            int ahead = volumeBehind(NONE);
-            for (int i = ahead + 1; i < pieces.size(); i++) {
-                if (isVolume(i) && i != ahead) {
-                    sum += growthBehind(ahead, i);
+            int ahead = NONE;
+            for (int i = 0; i < pieces.size(); i++) {
+                if (isVolume(i)) {
+                    sum += ahead == NONE ? 0 : growthBehind(ahead, i);
                     ahead = i;
                 }
             }
