@@ -3,6 +3,8 @@ import java.util.TreeMap;
 
 /** Long runs of drawn calls, every answer beside that of Model. */
 public final class ModelTest {
+  /** What an object answers behind so many calls is free. */
+  private static final int PROMISED = 512;
   private static int wrong = 0;
   private static final Map<String, Map<Long, Integer>> SEEN = new TreeMap<>();
   private final Draws draws;
@@ -10,7 +12,7 @@ public final class ModelTest {
   private final Model m = new Model();
   private final int seed;
   private int calls = 0;
-  private final int dayRange, placeRange;
+  private final int dayRange, placeRange, fewPieces;
   private final boolean wild;
 
   private ModelTest(int seed) {
@@ -18,6 +20,7 @@ public final class ModelTest {
     draws = new Draws(seed);
     dayRange = draws.one(12, 40, 400, 10000);
     placeRange = draws.one(2, 3, 100);
+    fewPieces = draws.one(2, 4, 8, 90);
     wild = draws.once(4);
   }
   private void due(String call, long got, long want) {
@@ -35,6 +38,8 @@ public final class ModelTest {
   private int day() { return draws.once(30) ? upTo(9999) : Math.min(9999, (dayRange == 40 ? 9970 : 0) + upTo(dayRange - 1)); }
   private int place() { return draws.once(30) ? upTo(99) : upTo(placeRange - 1); }
   private int piece() { return upTo(m.count(4) - 1); }
+  /** Mostly another piece than this one. */
+  private int other(int piece) { int p = piece(); for (int i = 0; i < 9 && p == piece && !draws.once(20); i++) p = piece(); return p; }
   private int week() { return draws.below(3) > 0 ? Math.min(519, m.count(0) + draws.from(-3, 6)) : upTo(519); }
   private int seed() { return draws.once(20) ? draws.one(0, -1, Integer.MAX_VALUE, Integer.MIN_VALUE) : draws.any() & Integer.MAX_VALUE; }
   private int bits(int of) { int b = 0; for (int i = 0; i < of; i++) if (draws.once(2)) b |= 1 << i; return draws.once(40) ? draws.any() : draws.once(30) ? b | 1 << of : b; }
@@ -61,7 +66,10 @@ public final class ModelTest {
   }
   private void tell() {
     int a, b, c, d, e;
-    switch (draws.below(20)) {
+    int k = draws.below(23);
+    // few pieces, so that there are days that they have with truth and sources
+    if (k >= 9 && k <= 11 && m.count(4) >= fewPieces) k = 13;
+    switch (k) {
       case 0: a = draws.once(3) ? week() : m.count(0) + draws.below(4); due("clock(" + a + ")", num(x.clock(a)), num(m.clock(a))); break;
       case 1: a = draws.once(10) ? draws.one(1799, 1800, 1999, 2000) : draws.once(2) ? draws.from(1895, 1930) : draws.from(1800, 1999); b = draws.once(10) ? draws.one(0, 1, 99, 100) : draws.from(1, 5); due("stuff(" + a + "," + b + ")", x.stuff(a, b), m.stuff(a, b)); break;
       case 2: case 3: case 4: a = day(); b = place(); due("truth(" + a + "," + b + ")", x.truth(a, b), m.truth(a, b)); break;
@@ -84,7 +92,7 @@ public final class ModelTest {
   private void doing() {
     int a, b, c, d;
     switch (draws.below(12)) {
-      case 0: case 1: case 2: case 3: case 4: a = upTo(m.count(6) - 1); b = piece(); c = piece(); d = seed(); due("look(" + a + "," + b + "," + c + "," + d + ")", x.look(a, b, c, d), m.look(a, b, c, d)); break;
+      case 0: case 1: case 2: case 3: case 4: a = upTo(m.count(6) - 1); b = piece(); c = other(b); d = seed(); due("look(" + a + "," + b + "," + c + "," + d + ")", x.look(a, b, c, d), m.look(a, b, c, d)); break;
       case 5: case 6: case 7: a = piece(); b = upTo(m.count(1) - 1); due("test(" + a + "," + b + ")", x.test(a, b), m.test(a, b)); break;
       case 8: case 9: a = piece(); b = week(); due("keep(" + a + "," + b + ")", x.keep(a, b), m.keep(a, b)); break;
       case 10: a = upTo(3); due("image(" + a + ")", x.image(a), m.image(a)); break;
@@ -96,42 +104,44 @@ public final class ModelTest {
     switch (draws.below(19)) {
       case 0: case 1: a = piece(); b = upTo(7); due("of(" + a + "," + b + ")", x.of(a, b), m.of(a, b)); break;
       case 2: a = piece(); b = upTo(5); due("shared(" + a + "," + b + ")", x.shared(a, b), m.shared(a, b)); break;
-      case 3: a = upTo(m.count(6) - 1); b = piece(); c = piece(); due("chance(" + a + "," + b + "," + c + ")", x.chance(a, b, c), m.chance(a, b, c)); break;
-      case 4: a = upTo(m.count(6) - 1); b = piece(); c = piece(); d = piece(); due("tells(" + a + "," + b + "," + c + "," + d + ")", x.tells(a, b, c, d), m.tells(a, b, c, d)); break;
+      case 3: a = upTo(m.count(6) - 1); b = piece(); c = other(b); due("chance(" + a + "," + b + "," + c + ")", x.chance(a, b, c), m.chance(a, b, c)); break;
+      case 4: a = upTo(m.count(6) - 1); b = piece(); c = other(b); d = other(b); due("tells(" + a + "," + b + "," + c + "," + d + ")", x.tells(a, b, c, d), m.tells(a, b, c, d)); break;
       case 5: case 6: a = piece(); b = week(); due("stand(" + a + "," + b + ")", x.stand(a, b), m.stand(a, b)); break;
       case 7: a = piece(); due("cost(" + a + ")", x.cost(a), m.cost(a)); break;
       case 8: a = piece(); due("cheapest(" + a + ")", x.cheapest(a), m.cheapest(a)); break;
       case 9: a = piece(); due("likely(" + a + ")", x.likely(a), m.likely(a)); break;
-      case 10: a = piece(); b = piece(); due("kin(" + a + "," + b + ")", x.kin(a, b), m.kin(a, b)); break;
+      case 10: a = piece(); b = other(a); due("kin(" + a + "," + b + ")", x.kin(a, b), m.kin(a, b)); break;
       case 11: a = piece(); due("could(" + a + ")", x.could(a), m.could(a)); break;
       case 12: a = upTo(m.count(7) - 1); b = draws.once(3) ? week() : upTo(m.count(0)); due("outrun(" + a + "," + b + ")", x.outrun(a, b), m.outrun(a, b)); break;
       case 13: due("grows()", x.grows(), m.grows()); break;
-      case 14: a = draws.once(20) ? draws.any() : bits(m.count(6)); b = piece(); c = piece(); for (d = -1; d <= 7; d++) due("soonest(" + a + "," + b + "," + c + "," + d + ")", x.soonest(a, b, c, d), m.soonest(a, b, c, d)); break;
-      case 15: a = draws.once(3) ? upTo(9999) : upTo(30); b = piece(); c = piece(); due("surest(" + a + "," + b + "," + c + ")", x.surest(a, b, c), m.surest(a, b, c)); break;
+      case 14: a = draws.once(20) ? draws.any() : bits(m.count(6)); b = piece(); c = other(b); for (d = draws.from(-1, 5); d <= 7; d += 2) due("soonest(" + a + "," + b + "," + c + "," + d + ")", x.soonest(a, b, c, d), m.soonest(a, b, c, d)); break;
+      case 15: a = draws.once(3) ? upTo(9999) : upTo(30); b = piece(); c = other(b); due("surest(" + a + "," + b + "," + c + ")", x.surest(a, b, c), m.surest(a, b, c)); break;
       case 16: a = piece(); b = week(); due("unasked(" + a + "," + b + ")", x.unasked(a, b), m.unasked(a, b)); break;
       case 17: a = upTo(m.count(10) - 1); b = week(); due("gain(" + a + "," + b + ")", x.gain(a, b), m.gain(a, b)); break;
       default: a = upTo(11); due("count(" + a + ")", x.count(a), m.count(a)); break;
     }
   }
   private void run() {
-    int all = draws.one(200, 500, 500, 2500);
+    int all = draws.one(100, 250, 400, 450, 450);
     int telling = draws.one(3, 5, 8);
     while (calls < all && wrong < 20) {
       int k = draws.below(10);
       if (k < telling) tell(); else if (draws.once(3)) doing(); else question();
     }
-    int pieces = m.count(4);
-    for (int p = -1; p <= pieces; p++) {
-      for (int w = 0; w <= 8; w++) due("of(" + p + "," + w + ")", x.of(p, w), m.of(p, w));
-      for (int w = 0; w <= 520; w += 40) due("stand(" + p + "," + w + ")", x.stand(p, w), m.stand(p, w));
-      due("cost(" + p + ")", x.cost(p), m.cost(p));
-      due("could(" + p + ")", x.could(p), m.could(p));
-      due("likely(" + p + ")", x.likely(p), m.likely(p));
-    }
+    while (calls < PROMISED - 30) closing(draws.from(-1, m.count(4)));
     for (int i = -1; i <= 12; i++) due("count(" + i + ")", x.count(i), m.count(i));
+    if (calls > PROMISED) throw new IllegalStateException(calls + " calls of one object");
+  }
+  private void closing(int p) {
+    for (int w = 0; w <= 8; w++) due("of(" + p + "," + w + ")", x.of(p, w), m.of(p, w));
+    int week = week();
+    due("stand(" + p + "," + week + ")", x.stand(p, week), m.stand(p, week));
+    due("cost(" + p + ")", x.cost(p), m.cost(p));
+    due("could(" + p + ")", x.could(p), m.could(p));
+    due("likely(" + p + ")", x.likely(p), m.likely(p));
   }
   public static void main(String[] args) {
-    int runs = args.length > 1 ? Integer.parseInt(args[1]) : 200;
+    int runs = args.length > 1 ? Integer.parseInt(args[1]) : 800;
     for (int seed = 1; seed <= runs && wrong < 20; seed++) new ModelTest(seed).run();
     if (args.length > 1) for (String k : SEEN.keySet()) {
       Map<Long, Integer> s = SEEN.get(k);

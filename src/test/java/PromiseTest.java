@@ -67,6 +67,7 @@ public final class PromiseTest {
     for (int i = 3; i <= 200; i++) due("truth", x.truth(i, 5), i);
     due("a 201st", x.truth(500, 5), -1);
     promise = 5;
+    x = new SafeVolumes();
     due("fact(-1,0,0)", x.fact(-1, 0, 0), -1);
     due("fact(6,0,0)", x.fact(6, 0, 0), -1);
     due("fact(0,10000,0)", x.fact(0, 10000, 0), -1);
@@ -157,7 +158,8 @@ public final class PromiseTest {
     due("first day of the next", x.page(89, 0, 1), 6);
     due("pages of 88", x.of(88, 0), 1);
     due("age of 88", x.of(88, 4), 1927);
-    for (int i = 7; i <= 400; i++) due("page", x.page(5, 7 * i, 1), i);
+    x = volumes(7);
+    for (int i = 1; i <= 400; i++) due("page", x.page(5, 7 * i, 1), i);
     due("a 401st", x.page(6, 0, 0), -1);
   }
 
