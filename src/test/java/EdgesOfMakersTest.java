@@ -25,6 +25,7 @@ public final class EdgesOfMakersTest {
     soonestTakes();
     soonestOrders();
     longestWaits();
+    rowsByPieces();
     surestTakes();
     surestSets();
     Edge.finish(22, 29);
@@ -484,7 +485,10 @@ public final class EdgesOfMakersTest {
     }
     Edge.says(28, "A ROW of READERS (a set, 6 at most)");
     Edge.range("soonest(set n)", EdgesOfMakersTest::eight, (y, n) -> y.soonest(n, 0, 1, 0), 1, 0, 252, 2, -1);
-    for (int set : new int[] {0, -1, 127, 254, 255, 256, 257, 512, 1 << 30, MOST, Integer.MIN_VALUE}) Edge.refused("the set " + set, EdgesOfMakersTest::eight, y -> y.soonest(set, 0, 1, 0));
+    for (int set : new int[] {0, -1, 127, 254, 255, 256, 257, 512, 1 << 30, MOST, Integer.MIN_VALUE}) {
+      Edge.refused("the first of the set " + set, EdgesOfMakersTest::eight, y -> y.soonest(set, 0, 1, 0));
+      Edge.refused("the WAIT of the set " + set, EdgesOfMakersTest::eight, y -> y.soonest(set, 0, 1, 6));
+    }
     Edge.refused("a READER that is not", Edge::everything, y -> y.soonest(4, 0, 1, 0));
     Edge.refused("a READER that is not, and one that is", Edge::everything, y -> y.soonest(5, 0, 1, 0));
     Edge.refused("without READERS", y -> Edge.pieces(y, 2), y -> y.soonest(1, 0, 1, 6));
@@ -544,6 +548,34 @@ public final class EdgesOfMakersTest {
     BigInteger sum = BigInteger.ZERO;
     for (int i = 0; i < 6; i++) sum = sum.add(BigInteger.valueOf(99).multiply(BigInteger.valueOf(999).pow(i)).multiply(BigInteger.valueOf(1000).pow(5 - i)));
     Edge.due("all of 999", x.soonest(63, 0, 1, 6), sum.longValueExact());
+  }
+
+  /** Each piece has its own price, and its own hand. */
+  private static SafeVolumes threePrices(String... texts) {
+    SafeVolumes x = new SafeVolumes();
+    x.piece(0, 0, 0, 0, 0, 0, 0, 100);
+    x.piece(0, 90, 0, 0, 0, 0, 0, 900);
+    x.piece(1, 0, 9, 0, 0, 0, 0, 1000);
+    for (String text : texts) Edge.reader(x, text);
+    return x;
+  }
+  private static void rowsByPieces() {
+    Edge.says(28, "one after the other, for a PIECE beside another one");
+    SafeVolumes x = threePrices("yes price", "yes 1000 - price", "yes apart * 10", "yes own * 300");
+    Edge.due("the first", x.soonest(3, 0, 1, 6), 1100);
+    Edge.due("the first READER is soonest", x.soonest(3, 0, 1, 0), 0);
+    Edge.due("the second", x.soonest(3, 1, 0, 6), 1100);
+    Edge.due("the second READER is soonest", x.soonest(3, 1, 0, 0), 1);
+    Edge.due("the third", x.soonest(3, 2, 0, 6), 1000);
+    Edge.due("beside the second", x.soonest(12, 0, 1, 6), 1300);
+    Edge.due("beside the third", x.soonest(12, 0, 2, 6), 1000);
+    Edge.due("the first again", x.soonest(3, 0, 2, 6), 1100);
+    Edge.says(29, "SUREST for coins: the set of READERS");
+    SafeVolumes y = threePrices("yes price", "yes 1000 - price", "yes apart * 10", "yes own * 300");
+    Edge.due("of the first beside the second", y.surest(1, 0, 1), 1);
+    Edge.due("of the second beside the first", y.surest(1, 1, 0), 2);
+    Edge.due("of the first beside the third", y.surest(1, 0, 2), 8);
+    Edge.due("of the first beside the second again", y.surest(1, 0, 1), 1);
   }
 
   private static void surestTakes() {

@@ -194,12 +194,16 @@ public final class EdgesOfPeopleTest {
     SafeVolumes x = new SafeVolumes();
     Edge.due("image(3)", x.image(3), 0);
     Edge.everything(x);
+    for (int p = 0; p < 3; p++) x.keep(p, 99);
     Edge.due("back(3)", x.back(3), 0);
     for (int i = 0; i <= 11; i++) Edge.due("count(" + i + ")", x.count(i), i == 6 ? 2 : i == 7 ? 1 : i == 11 ? 6 : 0);
     Edge.due("the first STUFF anew", x.stuff(1900, 1), 0);
     Edge.due("the first PIECE anew", Edge.piece(x, 2, 0), 0);
     Edge.due("it has no PAGES", x.of(0, 0), 0);
     Edge.due("it is not KEPT CLOSE", x.keep(0, 1), 0);
+    Edge.pieces(x, 2);
+    Edge.due("nor is the second", x.keep(1, 1), 0);
+    Edge.due("nor the third", x.keep(2, 1), 0);
     Edge.due("the first DAY anew", x.truth(0, 1), 1);
     Edge.due("the first FACT anew", x.fact(0, 2, 1), 1);
     Edge.due("the first PERSON anew", x.person(0, 0, 0, 0), 0);

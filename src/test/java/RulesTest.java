@@ -1,10 +1,15 @@
 import java.lang.management.ManagementFactory;
 import java.lang.reflect.Constructor;
 import java.lang.reflect.Field;
+import java.lang.reflect.InvocationTargetException;
 import java.lang.reflect.Method;
 import java.lang.reflect.Modifier;
 import java.nio.file.Files;
 import java.nio.file.Path;
+import java.util.ArrayList;
+import java.util.Arrays;
+import java.util.Comparator;
+import java.util.List;
 import java.util.Set;
 import java.util.TreeSet;
 import java.util.regex.Matcher;
@@ -24,6 +29,7 @@ public final class RulesTest {
     classes();
     source(Files.readString(Path.of(args.length > 0 ? args[0] : "src/main/java/SafeVolumes.java")));
     memory();
+    for (int seed = 1; seed <= 40; seed++) neverThrows(new Draws(seed));
     System.out.println(wrong == 0 ? "the rules are kept" : wrong + " rules are not kept");
     if (wrong != 0) System.exit(1);
   }
@@ -83,6 +89,40 @@ public final class RulesTest {
       if (line.matches(" {4}( {4})?[a-z].*\\) \\{")) start = n;
       if (start >= 0 && line.matches(" {4}( {4})?\\}")) { must(n - start < 60, "the method from line " + start + " is short"); start = -1; }
     }
+  }
+
+  /** Calls of all kinds with arguments of all kinds, also far behind the 512th call: none may throw. */
+  private static void neverThrows(Draws draws) throws Exception {
+    SafeVolumes x = new SafeVolumes();
+    List<Method> open = new ArrayList<>();
+    for (Method m : SafeVolumes.class.getDeclaredMethods()) if (Modifier.isPublic(m.getModifiers())) open.add(m);
+    open.sort(Comparator.comparing(Method::getName));
+    boolean mild = draws.once(2);
+    for (int i = 0; i < 3000; i++) {
+      if (draws.once(3)) ordinary(x, draws);
+      if (draws.once(40)) Texts.feed(x, draws.once(2) ? new Texts(draws).reader() : new Texts(draws).maker());
+      Method m = open.get(draws.below(open.size()));
+      Object[] with = new Object[m.getParameterCount()];
+      for (int k = 0; k < with.length; k++) with[k] = mild || draws.once(3) ? argument(draws) : draws.any();
+      try {
+        m.invoke(x, with);
+      } catch (InvocationTargetException e) {
+        must(false, m.getName() + Arrays.toString(with) + " throws nothing: " + e.getCause());
+      }
+    }
+  }
+  private static void ordinary(SafeVolumes x, Draws draws) {
+    x.stuff(draws.from(1890, 1930), draws.from(1, 9));
+    x.piece(draws.below(3), draws.below(100), 0, 50, draws.below(100), 99, draws.below(1 << x.count(1)), draws.below(10000));
+    x.page(draws.below(x.count(4) + 1), draws.below(30), draws.below(3));
+    x.truth(draws.below(30), draws.below(3));
+    x.fact(draws.below(6), draws.below(30), draws.below(3));
+    x.look(draws.below(x.count(6) + 1), draws.below(3), draws.below(9), draws.any() & Integer.MAX_VALUE);
+    x.make(draws.below(x.count(7) + 1), draws.below(9), draws.below(30), draws.from(1, 60), draws.any() & Integer.MAX_VALUE);
+  }
+  private static int argument(Draws draws) {
+    if (draws.once(8)) return draws.one(Integer.MIN_VALUE, -10000, -2, -1, 9999, 10000, 1 << 16, 1 << 30, Integer.MAX_VALUE - 1, Integer.MAX_VALUE);
+    return draws.once(3) ? draws.below(1000) : draws.below(4);
   }
 
   /** All rows are made at first: what 512 calls make is next to nothing. */
