@@ -219,6 +219,13 @@ public final class EdgesOfReadingTest {
     chance("yes 100 - 2 * 3 * 4 + 5 * 6", 106);
     chance("yes 2 * 3 + 4", 10);
     chance("yes 1 if 2 + 3 * 4 = 15 - 1 and 10 - 3 - 2 = 5; yes 0", 1);
+    Edge.says(14, "yes SUM [ if TEST ]");
+    chance("yes 1 + 2 if 3 = 3; yes 0", 3);
+    chance("yes 20 - 2 * 3 if 4 + 5 = 9 and not 7 - 1 * 2 > 5; yes 0", 14);
+    chance("yes 5 * 7 if [1 + 1 = 2]; yes 0", 35);
+    chance("yes 1 + 2 if 1 + 2 = 4; yes 3 * 4 + 5 if 2 * 2 + 1 = 5; yes 0", 17);
+    chance("yes 1 + 2 * 3; yes 0", 7);
+    chance("yes 1 - 1 if not [1 + 1 = 2 * 1]; yes 3 - 1 - 1", 1);
   }
 
   // ---- TELLS
@@ -544,6 +551,13 @@ public final class EdgesOfReadingTest {
     Edge.piece(x, 0, 0);
     for (int i = 0; i < in.length; i++) Edge.due("of the STUFFS " + in[i], x.cheapest(i), due[i]);
     Edge.due("no STUFF", x.cheapest(in.length), -2);
+    int[][] three = {{5, 5, 5, 0}, {4, 5, 5, 0}, {5, 4, 5, 1}, {5, 5, 4, 2}, {5, 4, 4, 1}, {4, 5, 4, 0}, {1, 99, 2, 0}, {99, 98, 1, 2}};
+    for (int[] c : three) {
+      SafeVolumes y = new SafeVolumes();
+      for (int i = 0; i < 3; i++) y.stuff(1999, c[i]);
+      Edge.piece(y, 0, 7);
+      Edge.due("for " + c[0] + ", " + c[1] + ", " + c[2], y.cheapest(0), c[3]);
+    }
     x.page(4, 365, 0);
     Edge.due("still 2", x.cheapest(4), 2);
     x.page(5, 365, 0);

@@ -11,6 +11,8 @@ public final class EdgesOfTextsTest {
     end();
     eightReaders();
     sixMakers();
+    eachReaderForItself();
+    eachMakerForItself();
     emptyTape();
     longTexts();
     settings();
@@ -144,13 +146,6 @@ public final class EdgesOfTextsTest {
     Edge.due("a ninth", full.reader(), -1);
     Edge.due("the TAPE stays", full.count(11), 6);
     Edge.due("the READERS", full.count(6), 8);
-    SafeVolumes z = new SafeVolumes();
-    Edge.reader(z, "yes 1; takes 7; coins 8; yes 2 if 1 = 1");
-    Edge.reader(z, "yes 3; takes 9; yes");
-    Edge.reader(z, "yes 4");
-    Edge.pieces(z, 2);
-    Edge.due("nothing is left of the one with a FAULT", z.chance(1, 0, 1), 4);
-    Edge.due("takes 1 without", z.soonest(2, 0, 1, 6), 1);
   }
 
   private static void sixMakers() {
@@ -171,13 +166,65 @@ public final class EdgesOfTextsTest {
     Edge.due("the TAPE stays", full.count(11), 4);
     Edge.due("the MAKERS", full.count(7), 6);
     Edge.due("a READER has room", Edge.reader(full, "yes 5"), 2);
-    SafeVolumes z = new SafeVolumes();
-    Edge.maker(z, "of 0");
-    Edge.maker(z, "from 0; pace 9; slips 1000; of 0; from");
-    Edge.maker(z, "from 1");
-    Edge.stuffs(z, 1);
-    Edge.piece(z, 0, 1);
-    Edge.due("nothing is left of the one with a FAULT", z.could(0), 1);
+  }
+
+  /** What ends each in its own way: right, with each FAULT, in the midst of all that can be open. */
+  private static final String[] AHEAD = {"yes 9; takes 7; coins 8", "takes 7; coins 8; x", "takes 7; coins 8; takes 7", "coins 8; takes 100", "yes 99999; yes 123456",
+      "yes 1 if [[not [not 1 = 1 and", "yes 1 if 1 + 2 *", "yes 1 if " + times(11, "["), "yes 1 if " + times(11, "not "), "yes " + times(61, "1", "+"),
+      "takes 7; yes " + times(60, "1", "+"), times(12, "yes 1", ";") + ";yes 1", "yes 1 if [1=1", "yes 1 if " + times(10, "[") + "1=1" + times(10, "]"), ""};
+  /** 60 VALUES and FACTS, ten deep, twelve CLAUSES: the CHANCE is 1. */
+  private static final String ALL_THAT_CAN_STAND = "takes 3;yes " + times(48, "1", "+") + " if not " + times(9, "[") + "1=1" + times(9, "]") + times(9, ";yes 1") + ";coins 2";
+  private static void eachReaderForItself() {
+    Edge.says(12, "The TAPE, which is empty then, is a READER");
+    for (String ahead : AHEAD) {
+      SafeVolumes x = Edge.told(y -> Edge.pieces(y, 2));
+      int n = Edge.reader(x, ahead) < 0 ? 0 : 1;
+      Edge.due("behind [" + ahead + "] all that can stand in one", Edge.reader(x, ALL_THAT_CAN_STAND), n);
+      Edge.reader(x, ahead);
+      int m = x.count(6);
+      Edge.due("behind [" + ahead + "] a plain one", Edge.reader(x, "yes 2 + 3 if 1 = 1; yes 4"), m);
+      Edge.due("its CHANCE", x.chance(m, 0, 1), 5);
+      Edge.due("takes 1 without", x.soonest(1 << m, 0, 1, 6), 1);
+      Edge.due("takes of the other one", x.soonest(1 << n, 0, 1, 6), 3);
+      Edge.due("CHANCE of the other one", x.chance(n, 0, 1), 1);
+      Edge.reader(x, ahead);
+      int k = x.count(6);
+      Edge.due("behind [" + ahead + "] one without a yes", Edge.reader(x, "coins 5"), k);
+      Edge.due("its CHANCE", x.chance(k, 0, 1), 500);
+      SafeVolumes y = Edge.told(z -> Edge.pieces(z, 2));
+      n = Edge.reader(y, ahead) < 0 ? 0 : 1;
+      Edge.reader(y, "yes 0");
+      Edge.due("behind [" + ahead + "] coins 1 without", y.surest(1, 0, 1), 1 << n);
+    }
+  }
+  private static void eachMakerForItself() {
+    Edge.says(13, "The same as a MAKER (of 6).");
+    String[] before = {"from 0; pace 9; slips 1000; of 0", "from 0; pace 9; slips 1000; of 0; from", "from 0; pace 9; slips 1000; of 0; of 10", "from 0; pace 9; slips 1000; of 0; pace 1",
+        times(11, "from 0", ";") + ";of 0;from 0", "from 0; pace 9; slips 1000; of 0;", "from 0; of 0; slips 1001", times(12, "from 0", ";")};
+    for (String ahead : before) {
+      SafeVolumes x = new SafeVolumes();
+      Edge.stuffs(x, 1);
+      Edge.piece(x, 0, 1);
+      Edge.pieces(x, 2);
+      for (int d = 0; d < 9; d++) { x.truth(d, 1); x.fact(0, d, 2); if (d < 5) x.page(1, d, 1); }
+      Edge.maker(x, ahead);
+      int m = x.count(7);
+      Edge.due("behind [" + ahead + "]", Edge.maker(x, "from 1"), m);
+      Edge.due("no STUFF of the one ahead", x.could(0) >> m, 0);
+      Edge.due("no SOURCE of the one ahead", maker(x, m, 2), 0);
+      Edge.due("pace 1 without", x.outrun(m, 0), 0);
+      Edge.due("slips 0 without", x.make(m, 2, 0, 9, 0), 9);
+      Edge.due("none is a slip", x.of(2, 1), 1);
+      Edge.due("behind [" + ahead + "] all that can stand in one", Edge.maker(x, "pace 1;slips 1;" + times(10, "from 0", ";")), m + 1);
+    }
+  }
+  /** Whether a maker could have made a page of a piece that the source 0 alone has: the page of day 20. */
+  private static int maker(SafeVolumes x, int maker, int piece) {
+    x.fact(0, 20, 7);
+    x.page(piece, 20, 7);
+    int could = x.could(piece) >> maker & 1;
+    x.truth(20, 6);
+    return could;
   }
 
   private static void emptyTape() {
