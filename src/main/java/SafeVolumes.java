@@ -582,7 +582,7 @@ public final class SafeVolumes {
         Rows(int limit, int width) {
             this.limit = Math.max(limit, 0);
             this.width = Math.max(width, 0);
-            this.cells = new int[this.limit * this.width];
+            this.cells = new int[Math.max(this.limit * this.width, 0)];
         }
 
         int size() {
